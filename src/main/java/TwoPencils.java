@@ -41,6 +41,9 @@ public final class TwoPencils {
     private static final int CUT_AT_END = 4;
     private static final int KEPT_ANSWERS = 5;
 
+    // For each goal what a seat is worth to a that A, B, C, nobody wins.
+    private static final int[] WORTHS = {1, -1, 0, 0, 1, 0, 0, 0, 0, -1, 0, 0};
+
     private static final int UNKNOWN = -1000;
     private static final int A_MILLION = 1000000;
 
@@ -350,7 +353,7 @@ public final class TwoPencils {
         if (readyLand(land) == null || protocolAt(protocol) == null) {
             return NONE;
         }
-        return answer(land, protocol, CUT_AT_END);
+        return endOf(land, protocol);
     }
 
     public int first(int land, int protocol) {
@@ -368,7 +371,7 @@ public final class TwoPencils {
         int upper = 0;
         int lower = 1;
         for (int l = 0; l < landCount; l++) {
-            int itsUpper = farAtEnd(l, protocol);
+            int itsUpper = farOfEnd(l, endOf(l, protocol));
             if (itsUpper == NONE) {
                 continue;
             }
@@ -388,8 +391,8 @@ public final class TwoPencils {
         }
         int bits = 0;
         for (int l = 0; l < landCount; l++) {
-            int its = farAtEnd(l, protocol);
-            int others = farAtEnd(l, other);
+            int its = farOfEnd(l, endOf(l, protocol));
+            int others = farOfEnd(l, endOf(l, other));
             if (others != NONE && its > others) {
                 bits |= 1 << l;
             }
@@ -469,49 +472,39 @@ public final class TwoPencils {
         return over;
     }
 
-    /** Land and protocol are there. Kept till a vote changes, as these answers are the dear ones. */
+    /** What comes of a protocol; kept till a vote changes, as this is dear. Both are there. */
     private int answer(int land, int protocol, int what) {
         int place = (land * PROTOCOLS + protocol) * KEPT_ANSWERS + what;
         if (answers[place] == UNKNOWN) {
-            Land here = lands[land];
-            Protocol by = protocols[protocol];
-            if (what == CUT_AT_END) {
-                answers[place] = playToEnd(here, by);
-            } else {
-                boolean changed = what == CHANGED;
-                mind.turnTo(here, by, changed ? 1 : 0, changed ? 0 : what);
-                trial.start(here, by);
-                answers[place] = mind.weigh(trial);
-            }
+            boolean changed = what == CHANGED;
+            mind.turnTo(lands[land], protocols[protocol], changed ? 1 : 0, changed ? 0 : what);
+            trial.start(lands[land], protocols[protocol]);
+            answers[place] = mind.weigh(trial);
         }
         return answers[place];
     }
 
-    private int playToEnd(Land here, Protocol by) {
-        mind.turnTo(here, by, 0, 0);
-        trial.start(here, by);
-        for (int i = 0; i < Game.MOST_MOVES && !trial.isOver(); i++) {
-            mind.weigh(trial);
-            trial.play(mind.choice);
+    /** The cut that a protocol has ended with, or NONE; kept likewise. Both are there. */
+    private int endOf(int land, int protocol) {
+        int place = (land * PROTOCOLS + protocol) * KEPT_ANSWERS + CUT_AT_END;
+        Land here = readyLand(land);
+        if (here != null && answers[place] == UNKNOWN) {
+            mind.turnTo(here, protocols[protocol], 0, 0);
+            trial.start(here, protocols[protocol]);
+            for (int i = 0; i < Game.MOST_MOVES && !trial.isOver(); i++) {
+                mind.weigh(trial);
+                trial.play(mind.choice);
+            }
+            Land.order(trial.kept, trial.keptCount);
+            answers[place] = trial.phase == OVER ? here.numberOf(trial.kept, trial.keptCount) : NONE;
         }
-        if (trial.phase != OVER) {
-            return NONE;
-        }
-        Land.order(trial.kept, trial.keptCount);
-        return here.numberOf(trial.kept, trial.keptCount);
+        return answers[place];
     }
 
-    /** The upper number (over the land's lower one) of how far the ended cut is for A, or NONE. */
-    private int farAtEnd(int land, int protocol) {
-        Land here = readyLand(land);
-        if (here == null) {
-            return NONE;
-        }
-        int cut = answer(land, protocol, CUT_AT_END);
-        if (cut == NONE || here.judged(cut, parts) != 0) {
-            return NONE;
-        }
-        return here.farUpper(here.wins(parts, 0), 0);
+    /** The upper number (over the land's lower one) of how far that cut is for A, or NONE. */
+    private int farOfEnd(int land, int cut) {
+        Land here = landWithLawful(land, cut);
+        return here == null ? NONE : here.farUpper(here.wins(parts, 0), 0);
     }
 
     /** The bytes that were fed, and a place of reading in them. */
@@ -743,29 +736,19 @@ public final class TwoPencils {
         }
     }
 
-    /** Rounds in their order: of which kind, and who draws. */
+    /**
+     * Of which kind a round is and who draws in it, by the number of seats kept before it: only
+     * rounds by which one seat is kept go on, so that number tells the round.
+     */
     private static final class Protocol {
-        private final int rounds;
-        private final int[] kinds;
-        private final int[] drawers;
+        private final int[] kinds = new int[SEATS];
+        private final int[] drawers = new int[SEATS];
 
         Protocol(ProtocolText text) {
-            rounds = text.rounds;
-            kinds = text.kinds.clone();
-            drawers = text.drawers.clone();
-        }
-
-        /** Only rounds by which one seat is kept go on, so seats kept tell the round. */
-        private int roundAfter(int seatsKept) {
-            return rounds > 0 && seatsKept >= 0 ? seatsKept % rounds : 0;
-        }
-
-        int kindAfter(int seatsKept) {
-            return kinds[roundAfter(seatsKept)];
-        }
-
-        int drawerAfter(int seatsKept) {
-            return drawers[roundAfter(seatsKept)];
+            for (int kept = 0; kept < SEATS && text.rounds > 0; kept++) {
+                kinds[kept] = text.kinds[kept % text.rounds];
+                drawers[kept] = text.drawers[kept % text.rounds];
+            }
         }
     }
 
@@ -786,6 +769,7 @@ public final class TwoPencils {
         // lawful seat) with it; so the bit with the number of all parishes tells of the set itself.
         private final int[] hanging;
         private final int[] lawful;
+        private final int[] common = new int[1 << SEATS];
         private final Roll roll;
         private boolean stale = true;
         private boolean played = false;
@@ -1011,10 +995,7 @@ public final class TwoPencils {
 
         /** What a seat adds to a goal, as a sees it: a wants all goals great, b wants them small. */
         int worth(int set, int goal) {
-            if (winner[set] == 0) {
-                return goal == 2 ? 0 : 1;
-            }
-            return winner[set] == 1 && goal != 1 ? -1 : 0;
+            return WORTHS[4 * goal + winner[set]];
         }
 
         int worthOfAll(int[] parts, int count, int goal) {
@@ -1033,23 +1014,20 @@ public final class TwoPencils {
             return Math.max(1, headsIn(everyone) * seats);
         }
 
+        /** Seats of one are paired in their order with all sets of so many seats of the other. */
         int distance(int[] one, int[] other) {
-            return parishes - commonOf(one, other, 0, 0);
-        }
-
-        /** The most parishes that seats from this one on share with those not yet taken. */
-        private int commonOf(int[] one, int[] other, int seat, int taken) {
-            if (seat >= seats) {
-                return 0;
-            }
-            int most = 0;
-            for (int s = 0; s < seats; s++) {
-                if ((taken >> s & 1) == 0) {
-                    int shared = Integer.bitCount(one[seat] & other[s]);
-                    most = Math.max(most, shared + commonOf(one, other, seat + 1, taken | 1 << s));
+            for (int taken = 1; taken < 1 << seats; taken++) {
+                int seat = Integer.bitCount(taken) - 1;
+                int most = 0;
+                for (int s = 0; s < seats; s++) {
+                    if ((taken >> s & 1) != 0) {
+                        int shared = Integer.bitCount(one[seat] & other[s]);
+                        most = Math.max(most, common[taken ^ 1 << s] + shared);
+                    }
                 }
+                common[taken] = most;
             }
-            return most;
+            return parishes - common[(1 << seats) - 1];
         }
 
         boolean isSettled(int[] parts) {
@@ -1267,7 +1245,7 @@ public final class TwoPencils {
             }
             part[to] |= bit;
             digit[at] = to;
-            used[at + 1] = Math.max(used[at], to + 1);
+            used[at + 1] = to == used[at] ? to + 1 : used[at];
             return true;
         }
 
@@ -1315,14 +1293,18 @@ public final class TwoPencils {
             this.goal = goal;
             number = NONE;
             worth = 0;
-            joinFrom(0, 0);
+            joinFrom(0, 0, 0);
             return number != NONE;
         }
 
         /** Halves are numbered by their lowest parishes, so seats come numbered by theirs. */
-        private void joinFrom(int seat, int taken) {
+        private void joinFrom(int seat, int taken, int sum) {
             if (seat >= seats) {
-                compare();
+                int its = land.numberOf(joined, seats);
+                if (number == NONE || Mind.prefers(player, sum, worth) || sum == worth && its < number) {
+                    number = its;
+                    worth = sum;
+                }
                 return;
             }
             int one = 0;
@@ -1333,20 +1315,8 @@ public final class TwoPencils {
                 int set = half[one] | half[other];
                 if ((taken >> other & 1) == 0 && land.isLawful(set)) {
                     joined[seat] = set;
-                    joinFrom(seat + 1, taken | 1 << one | 1 << other);
+                    joinFrom(seat + 1, taken | 1 << one | 1 << other, sum + land.worth(set, goal));
                 }
-            }
-        }
-
-        private void compare() {
-            int its = land.worthOfAll(joined, seats, goal);
-            if (number != NONE && Mind.prefers(player, worth, its)) {
-                return;
-            }
-            int itsNumber = land.numberOf(joined, seats);
-            if (number == NONE || its != worth || itsNumber < number) {
-                number = itsNumber;
-                worth = its;
             }
         }
     }
@@ -1383,10 +1353,6 @@ public final class TwoPencils {
             this.land = land;
             this.protocol = protocol;
             made = 0;
-            setOut();
-        }
-
-        private void setOut() {
             keptCount = 0;
             open = land.everyone;
             toCome = land.seats;
@@ -1401,7 +1367,7 @@ public final class TwoPencils {
             if (isOver()) {
                 return NONE;
             }
-            int drawer = protocol.drawerAfter(keptCount);
+            int drawer = protocol.drawers[keptCount];
             return phase == KEEP || phase == JOIN || phase == TAKE ? 1 - drawer : drawer;
         }
 
@@ -1410,7 +1376,7 @@ public final class TwoPencils {
                 phase = OVER;
                 return;
             }
-            phase = protocol.kindAfter(keptCount);
+            phase = protocol.kinds[keptCount];
             if (!(phase == HALVE ? canHalve() : canCut())) {
                 phase = BROKEN;
             }
@@ -1490,26 +1456,21 @@ public final class TwoPencils {
             return greater || onlyOne;
         }
 
+        void takeBack() {
+            int left = made - 1;
+            start(land, protocol);
+            for (int i = 0; i < left; i++) {
+                play(moves[i]);
+            }
+        }
+
         /** The move is one that is permitted. */
         void play(int x) {
-            if (made < MOST_MOVES) {
-                moves[made] = x;
-                made++;
-                carryOut(x);
+            if (made >= MOST_MOVES) {
+                return;
             }
-        }
-
-        void takeBack() {
-            if (made > 0) {
-                made--;
-                setOut();
-                for (int i = 0; i < made; i++) {
-                    carryOut(moves[i]);
-                }
-            }
-        }
-
-        private void carryOut(int x) {
+            moves[made] = x;
+            made++;
             switch (phase) {
                 case DRAW:
                     land.split(x, CUT_BITS, open, toCome, drawn);
@@ -1569,6 +1530,7 @@ public final class TwoPencils {
     /** Plays at its best by a goal. Worths are as a sees them: a wants much, b wants little. */
     private static final class Mind {
         private static final int SETS = 1 << PARISHES;
+        private static final int OUT_OF_REACH = 100;
 
         private final Joiner joiner;
         private final Cutter[] cutters = new Cutter[SEATS];
@@ -1593,6 +1555,11 @@ public final class TwoPencils {
             return player == 0 ? one > other : one < other;
         }
 
+        /** Less than any game can come to. */
+        private static int worstFor(int player) {
+            return player == 0 ? -OUT_OF_REACH : OUT_OF_REACH;
+        }
+
         /** With changed 1, a and b are in each other's place in the protocol. */
         void turnTo(Land land, Protocol protocol, int changed, int goal) {
             if (land != this.land || protocol != this.protocol || changed != this.changed || goal != this.goal) {
@@ -1600,16 +1567,16 @@ public final class TwoPencils {
                 this.protocol = protocol;
                 this.changed = changed;
                 this.goal = goal;
-                forget();
+                Arrays.fill(worths, UNKNOWN);
             }
         }
 
         void forget() {
-            Arrays.fill(worths, UNKNOWN);
+            land = null;
         }
 
         private int drawer(int toCome) {
-            return protocol.drawerAfter(land.seats - toCome) ^ changed;
+            return protocol.drawers[land.seats - toCome] ^ changed;
         }
 
         /** What comes of a game with seats kept so far; the best move is in choice then. */
@@ -1618,7 +1585,7 @@ public final class TwoPencils {
             int toCome = game.toCome;
             choice = NONE;
             switch (game.phase) {
-                case KEEP: return sum + keepOne(game.drawn, game.open, toCome);
+                case KEEP: return sum + keepOne(game.drawn, game.open, toCome, worstFor(drawer(toCome)));
                 case JOIN: return sum + joinHalves(game.drawn, toCome);
                 case TWO_OF_TWO: return sum + drawSecond(game);
                 case TAKE: return sum + takeOne(game);
@@ -1630,12 +1597,12 @@ public final class TwoPencils {
 
         /** What comes from the beginning of a round on. */
         private int ahead(int open, int toCome) {
-            if (toCome < 1 || toCome > SEATS || open < 0 || open >= SETS) {
+            if (toCome < 1 || toCome > land.seats || open < 0 || open >= SETS) {
                 return 0;
             }
             int place = (toCome - 1) * SETS + open;
             if (worths[place] == UNKNOWN) {
-                switch (protocol.kindAfter(land.seats - toCome)) {
+                switch (protocol.kinds[land.seats - toCome]) {
                     case DRAW:
                         worths[place] = drawForKeeping(open, toCome);
                         break;
@@ -1663,27 +1630,28 @@ public final class TwoPencils {
 
         private int drawForKeeping(int open, int toCome) {
             int drawer = drawer(toCome);
-            int best = 0;
+            int best = worstFor(drawer);
             int number = NONE;
             Cutter cutter = cutsOf(open, toCome);
             for (int i = 0; i < A_MILLION && cutter.next(); i++) {
-                int worth = keepOne(cutter.part, open, toCome);
-                if (number == NONE || prefers(drawer, worth, best)) {
+                int worth = keepOne(cutter.part, open, toCome, best);
+                if (prefers(drawer, worth, best)) {
                     best = worth;
                     number = cutter.number(CUT_BITS);
                 }
             }
             choice = number;
-            return best;
+            return number == NONE ? 0 : best;
         }
 
-        private int keepOne(int[] seat, int open, int toCome) {
-            int keeper = 1 - drawer(toCome);
-            int best = 0;
+        /** Looks no further where the drawer has not less already: such a cut is not drawn. */
+        private int keepOne(int[] seat, int open, int toCome, int drawerHas) {
+            int drawer = drawer(toCome);
+            int best = worstFor(1 - drawer);
             int number = NONE;
-            for (int s = 0; s < toCome; s++) {
+            for (int s = 0; s < toCome && prefers(drawer, best, drawerHas); s++) {
                 int worth = land.worth(seat[s], goal) + ahead(open & ~seat[s], toCome - 1);
-                if (number == NONE || prefers(keeper, worth, best)) {
+                if (prefers(1 - drawer, worth, best)) {
                     best = worth;
                     number = s;
                 }
