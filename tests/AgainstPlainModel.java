@@ -41,11 +41,14 @@ public final class AgainstPlainModel {
         final Plain plain = new Plain();
         final List<String> told = new ArrayList<>();
         final int largest;
+        /** Six or seven parishes in three seats, beside many: halves can be joined in several ways. */
+        final boolean crowded;
         int made = 0;
 
         Run(int seed) {
             this.seed = seed;
             random = new Random(seed * 7919L + 13);
+            crowded = seed % 20 == 7;
             largest = seed % 40 == 38 ? 9 : seed % 10 == 9 ? 7 : 5;
         }
 
@@ -139,14 +142,14 @@ public final class AgainstPlainModel {
         }
 
         String landText() {
-            int n = 2 + pick(largest - 1);
-            int m = 1 + pick(Math.min(4, n));
+            int n = crowded ? 6 + pick(2) : 2 + pick(largest - 1);
+            int m = crowded ? 3 : 1 + pick(Math.min(4, n));
             if (n >= 4 && m == 1 && pick(3) > 0) {
                 m = 2;
             }
             List<String> sentences = new ArrayList<>();
             sentences.add(blank() + n + blank() + "/" + blank() + number(m));
-            int edges = n - 1 + pick(n + 3);
+            int edges = n - 1 + pick(n + 3) + (crowded ? 6 : 0);
             for (int i = 0; i < edges; i++) {
                 int p = i < n - 1 ? i : pick(n);
                 int q = i < n - 1 ? (seldom(4) ? pick(n) : i + 1) : pick(n);
@@ -183,7 +186,7 @@ public final class AgainstPlainModel {
             StringBuilder text = new StringBuilder();
             for (int r = 0; r < rounds; r++) {
                 boolean a = pick(2) == 0;
-                String sign = new String[] {">", ">", ">", "+", "/", "+", "/", ""}[pick(8)];
+                String sign = crowded && r > 0 ? "+" : new String[] {">", ">", ">", "+", "/", "+", "/", ""}[pick(8)];
                 text.append(r > 0 ? blank() + "," + blank() : blank()).append(a ? "a" : "b");
                 if (!sign.isEmpty()) {
                     text.append(blank()).append(sign).append(blank()).append(a ? "b" : "a");

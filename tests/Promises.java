@@ -34,6 +34,8 @@ public final class Promises {
         p29to31();
         p32and33();
         p34();
+        p26Joining();
+        allPlacesTaken();
         wrongNumbers();
         System.out.println(wrong == 0 ? "all answers are as due" : wrong + " answers are not as due");
         if (wrong != 0) {
@@ -761,6 +763,48 @@ public final class Promises {
         due(34, "broken", x.count(3), 1);
         due(34, "count(5)", x.count(5), -1);
         due(34, "count(-1)", x.count(-1), -1);
+    }
+
+    /** Two ways to join: 03|14|25 and 04|12|35. The second is found later, but has the lower number. */
+    private static void p26Joining() {
+        String ring = "6/3;0-3;3-5;5-2;2-1;1-4;4-0";
+        int halves = 0;
+        for (int h = 0; h < 6; h++) {
+            halves = halves * 8 + h;
+        }
+        int one = cut(0, 1, 2, 0, 1, 2);
+        int other = cut(0, 1, 1, 2, 0, 2);
+        TwoPencils x = with(ring + "|" + ring + ";0:1,0;1:1,0;3:0,2;5:0,1", "a+b|b+a");
+        for (int l = 0; l < 2; l++) {
+            for (int p = 0; p < 2; p++) {
+                int g = x.game(l, p);
+                due(26, "halves", x.best(g, 0), halves);
+                due(24, "halves", x.move(g, halves), true);
+                due(26, "join " + l + " " + p, x.best(g, 0), l == 1 && p == 0 ? one : other);
+                due(27, "join " + l + " " + p, x.value(g, 0), l == 0 ? 0 : p == 0 ? -1 : 1);
+                due(30, "ended " + l + " " + p, x.ended(l, p), l == 1 && p == 0 ? one : other);
+                due(24, "no join", x.move(g, cut(0, 0, 1, 1, 2, 2)), false);
+                due(24, "join", x.move(g, one), true);
+            }
+        }
+    }
+
+    private static void allPlacesTaken() {
+        TwoPencils x = with("2/1;0-1|2/1|2/1|2/1|2/1|2/1", "a|a|a|a|a|a|a|a");
+        for (int g = 0; g < 8; g++) {
+            due(21, "game", x.game(0, g), g);
+        }
+        due(7, "told(6, 0)", x.told(6, 0), -1);
+        due(10, "judge(6, 0)", x.judge(6, 0), -1);
+        due(22, "phase(8)", x.phase(8), -1);
+        due(29, "sure(0, 8, 0)", x.sure(0, 8, 0), -100);
+        due(29, "sure(6, 0, 0)", x.sure(6, 0, 0), -100);
+        due(32, "worst(8)", x.worst(8), -1);
+        due(33, "worse(0, 8)", x.worse(0, 8), -1);
+        due(33, "worse(8, 0)", x.worse(8, 0), -1);
+        due(24, "a number with a digit too much", x.move(0, 16), false);
+        due(24, "below", x.move(0, -1), false);
+        due(24, "the cut", x.move(0, 0), true);
     }
 
     private static void wrongNumbers() {

@@ -1364,7 +1364,7 @@ public final class TwoPencils {
         }
 
         int mover() {
-            if (isOver()) {
+            if (isOver() || keptCount >= SEATS) {
                 return NONE;
             }
             int drawer = protocol.drawers[keptCount];
@@ -1372,7 +1372,7 @@ public final class TwoPencils {
         }
 
         private void enterRound() {
-            if (toCome == 0) {
+            if (toCome == 0 || keptCount >= SEATS) {
                 phase = OVER;
                 return;
             }
@@ -1576,7 +1576,8 @@ public final class TwoPencils {
         }
 
         private int drawer(int toCome) {
-            return protocol.drawers[land.seats - toCome] ^ changed;
+            int kept = land.seats - toCome;
+            return kept >= 0 && kept < SEATS ? protocol.drawers[kept] ^ changed : 0;
         }
 
         /** What comes of a game with seats kept so far; the best move is in choice then. */
