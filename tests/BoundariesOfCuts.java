@@ -265,6 +265,16 @@ public final class BoundariesOfCuts {
             Due.due("without votes", x.luck(1, row[0], 0, 0) + x.luck(1, row[0], 2, 1), 0);
         }
         Due.due("all four, no other cut", x.luck(2, 27, 0, 0) + x.luck(2, 27, 0, 1), 0);
+        // All 7770 cuts are lawful, and A wins the seat that 8 is in, whichever that is.
+        TwoPencils y = Due.lands(complete(9, 4) + ";8:1,0");
+        int last = Due.cut(0, 1, 2, 3, 3, 3, 3, 3, 3);
+        Due.due("none wins more", y.luck(0, last, 0, 0) + y.luck(0, last, 0, 1), 0);
+        y.vote(0, 7, 1, 1);
+        // 7 and 8 are together in 1701 cuts, the last one too, and nobody wins there; else A and B win one each.
+        for (int party = 0; party < 2; party++) {
+            Due.due("fewer than by the last", y.luck(0, last, party, 1), 0);
+            Due.due("more than by the last", y.luck(0, last, party, 0), 7770 - 1701);
+        }
     }
 
     static void far() {
@@ -356,6 +366,55 @@ public final class BoundariesOfCuts {
         Due.due("settled(3, 5)", x.settled(3, 5), 0);
     }
 
+    /** All ways to give three parishes some votes: all lawful cuts of the line are neighbours, and so are those of the triangle. */
+    static void balanceOfAllVotes() {
+        Due.says(0, "BALANCE: SEATS WON by A less those by B.");
+        int[][] votes = {{0, 0, 0}, {1, 0, 0}, {0, 1, 0}, {2, 1, 0}, {1, 2, 0}, {0, 0, 1}, {1, 1, 1}};
+        for (int i = 0; i < 343; i++) {
+            int[][] of = {votes[i % 7], votes[i / 7 % 7], votes[i / 49]};
+            StringBuilder text = new StringBuilder();
+            for (int p = 0; p < 3; p++) {
+                text.append(";" + p + ":" + of[p][0] + "," + of[p][1] + "," + of[p][2]);
+            }
+            TwoPencils x = Due.lands("3/2;0-1;1-2" + text, "3/2;0-1;1-2;2-0" + text);
+            int ofLine = balanceOf(of, 3) == balanceOf(of, 1) ? 1 : 0;
+            int ofTriangle = ofLine == 1 && balanceOf(of, 5) == balanceOf(of, 1) ? 1 : 0;
+            Due.due("001 in a line, with" + text, x.settled(0, 1), ofLine);
+            Due.due("011 in a line, with" + text, x.settled(0, 5), ofLine);
+            Due.due("001 in a triangle, with" + text, x.settled(1, 1), ofTriangle);
+            Due.due("010 in a triangle, with" + text, x.settled(1, 4), ofTriangle);
+            Due.due("011 in a triangle, with" + text, x.settled(1, 5), ofTriangle);
+        }
+    }
+
+    /** Of three parishes in two seats, one of them as bits. */
+    private static int balanceOf(int[][] votes, int seat) {
+        int balance = 0;
+        for (int s = 0; s < 2; s++) {
+            int[] sum = new int[3];
+            for (int p = 0; p < 3; p++) {
+                for (int party = 0; party < 3; party++) {
+                    sum[party] += (seat >> p & 1) == s ? votes[p][party] : 0;
+                }
+            }
+            balance += sum[0] > sum[1] && sum[0] > sum[2] ? 1 : sum[1] > sum[0] && sum[1] > sum[2] ? -1 : 0;
+        }
+        return balance;
+    }
+
+    static void neighbourByParish0() {
+        Due.says(0, "NEIGHBOURS: LAWFUL CUTS that are one apart.");
+        // {0} alone has too few heads: there are but {0,1},{2} and {0,2},{1}. B and A win the one, A twice the other.
+        TwoPencils x = Due.lands(complete(3, 2) + ";>3;0:0,2;1:2,1;2:3,0");
+        Due.due("all(0, NONE)", x.all(0, -1), 2);
+        Due.due("settled(0, 001)", x.settled(0, 1), 0);
+        Due.due("settled(0, 010)", x.settled(0, 4), 0);
+        Due.due("near(0, 001)", x.near(0, 1), -1);
+        x.vote(0, 0, 1, 0);
+        x.vote(0, 0, 0, 2);
+        Due.due("settled(0, 001)", x.settled(0, 1), 1);
+    }
+
     static void settled() {
         Due.says(0, "SETTLED is a LAWFUL CUT of whose NEIGHBOURS none has another BALANCE.");
         TwoPencils x = Due.lands(ROW, BARE_ROW, "4/4;0:1,0", "2/1;0-1;0:1,0");
@@ -384,6 +443,22 @@ public final class BoundariesOfCuts {
         Due.due("1 and 21 are one apart from 0101", x.near(1, 17), 1);
         Due.due("1 and 21 are one apart from 0110", x.near(1, 20), 1);
         Due.due("5 alone is one apart from 0100", x.near(1, 16), 5);
+    }
+
+    static void nearOfSeveralFartherOnes() {
+        Due.says(0, "of several the first.");
+        // A ring. 0001, 0100, 0011 and 0110 have a balance of -2, 0010 and 0111 of -1: these and their neighbours are not settled.
+        TwoPencils x = Due.lands("4/2;0-1;1-2;2-3;3-0;1:0,1;3:1,2");
+        int[] cuts = {1, 4, 5, 16, 20, 21};
+        int[] settled = {1, 0, 0, 1, 0, 0};
+        for (int i = 0; i < 6; i++) {
+            Due.due("settled(0, " + cuts[i] + ")", x.settled(0, cuts[i]), settled[i]);
+        }
+        for (int other : new int[] {4, 21}) {
+            Due.due("apart from 0001", x.apart(0, other, 1), 2);
+            Due.due("apart from 0100", x.apart(0, other, 16), 2);
+            Due.due("the first of both", x.near(0, other), 1);
+        }
     }
 
     // ---- terms: walks ----
@@ -528,6 +603,11 @@ public final class BoundariesOfCuts {
         // 012|3: B 7, A 6 - A; 01|23: B - A; 0|123: A - A 7, B 6.
         Due.due("luck of 012|3", x.luck(0, 1, 0, 0), 1);
         Due.due("settled(0, 5)", x.settled(0, 5), 0);
+        // 0|123 has too many heads now, and is in no roll any more.
+        x.vote(0, 3, 1, 8);
+        Due.due("all(0, NONE)", x.all(0, -1), 2);
+        Due.due("fewer than by 012|3", x.luck(0, 1, 1, 1), 0);
+        Due.due("alone(0, 1, 0)", x.alone(0, 1, 0), 2);
         x.vote(0, 0, 2, 99);
         Due.due("all(0, NONE)", x.all(0, -1), 0);
         Due.due("alone(0, 0, 0)", x.alone(0, 0, 0), -1);

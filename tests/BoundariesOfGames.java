@@ -248,6 +248,19 @@ public final class BoundariesOfGames {
         Due.play(y, 0, Due.halves(0, 1, 2, 2, 3));
     }
 
+    static void eachHalfHangsTogether() {
+        Due.says(0, "each of PARISHES that hang together,");
+        TwoPencils x = Due.game("5/2;0-1;0-2;2-3;2-4", "a+b");
+        Due.noMove(x, 0, Due.halves(0, 1, 2, 3, 3));
+        Due.noMove(x, 0, Due.halves(0, 1, 1, 2, 3));
+        Due.play(x, 0, Due.halves(0, 1, 2, 3, 2));
+        TwoPencils y = Due.game(RING_OF_FIVE, "b+a");
+        Due.noMove(y, 0, Due.halves(0, 1, 2, 3, 2));
+        Due.noMove(y, 0, Due.halves(0, 1, 2, 1, 3));
+        Due.noMove(y, 0, Due.halves(0, 1, 0, 2, 3));
+        Due.play(y, 0, Due.halves(0, 1, 2, 3, 3));
+    }
+
     static void halvesNeedNotBeLawful() {
         Due.says(0, "such that two by two can be joined to LAWFUL SEATS;");
         TwoPencils x = Due.game("2/1;0-1;0=1;>2;0:1,0;1:1,0", "b+a");
@@ -323,6 +336,28 @@ public final class BoundariesOfGames {
         Due.play(y, 0, Due.cut(0, 0, 0, 0, 1, 1));
         Due.at(y, 0, OVER, -1, 3);
         Due.due("kept(0, 2)", y.kept(0, 2), Due.bits(4, 5));
+    }
+
+    static void joinedThrice() {
+        Due.says(0, "such that two by two can be joined to LAWFUL SEATS; b joins them so:");
+        int halves = Due.halves(0, 1, 2, 3, 4, 5);
+        int one = Due.cut(0, 0, 1, 1, 2, 2);
+        int other = Due.cut(0, 1, 1, 2, 2, 0);
+        TwoPencils x = Due.game(RING, "a+b", halves);
+        Due.due("best(0, 0)", x.best(0, 0), one);
+        Due.noMove(x, 0, Due.cut(0, 0, 0, 1, 1, 2));
+        Due.noMove(x, 0, Due.cut(0, 1, 0, 1, 2, 2));
+        Due.play(x, 0, other);
+        x.undo(0);
+        Due.play(x, 0, one);
+        // Without 5-0 there is but the one way, without 0-1 but the other; without both there is none.
+        Due.noMove(Due.game("6/3;0-1;1-2;2-3;3-4;4-5", "a+b", halves), 0, other);
+        Due.noMove(Due.game("6/3;5-0;1-2;2-3;3-4;4-5", "a+b", halves), 0, one);
+        Due.noMove(Due.game("6/3;3-0;1-2;2-3;3-4;4-5;0-2;3-5", "a+b"), 0, Due.halves(0, 1, 1, 2, 3, 4));
+        TwoPencils y = Due.lands("6/3;1-2;2-3;3-4;4-5");
+        Due.protocols(y, "a+b");
+        Due.due("game(0, 0)", y.game(0, 0), 0);
+        Due.at(y, 0, BROKEN, -1, 0);
     }
 
     static void twoUnlikeCuts() {
@@ -447,6 +482,13 @@ public final class BoundariesOfGames {
         Due.noMove(x, 0, 256);
         for (int move : Due.FAR_OUT) {
             Due.due("move(0, " + move + ")", x.move(0, move), false);
+        }
+        for (String protocol : new String[] {"a", "a>b", "a/b"}) {
+            TwoPencils y = Due.game(PAIR, protocol);
+            Due.noMove(y, 0, 16);
+            Due.noMove(y, 0, 32);
+            Due.noMove(y, 0, -16);
+            Due.play(y, 0, 0);
         }
     }
 
@@ -624,6 +666,127 @@ public final class BoundariesOfGames {
         Due.due("value(1, 0)", x.value(1, 0), 1);
     }
 
+    /**
+     * A ring of five: halves with a pair of neighbours can be joined to two cuts, one with a third
+     * before the pair, one with a third behind it. T are the three.
+     */
+    static void bestHalvesAndJoining() {
+        Due.says(0, "BEST: each MOVE is one by which the GOAL, both playing so from there on, comes out best for who makes it;");
+        // Balance if T is 012: 1, 123: 1, 234: 0, 340: 1, 401: 0.
+        TwoPencils x = Due.lands(RING_OF_FIVE + ";0:1,0;1:0,2;2:2,0", RING_OF_FIVE + ";0:0,1;1:2,0;2:0,2");
+        Due.protocols(x, "a+b", "b+a");
+        int pair12 = Due.halves(0, 1, 1, 2, 3);
+        int lowest = Due.halves(0, 0, 1, 2, 3);
+        int[][] value = {{1, 1}, {-1, -1}};
+        int[][] best = {{pair12, lowest}, {lowest, pair12}};
+        for (int l = 0; l < 2; l++) {
+            for (int p = 0; p < 2; p++) {
+                int g = x.game(l, p);
+                Due.due("value of halves", x.value(g, 0), value[l][p]);
+                Due.due("sure(" + l + ", " + p + ", 0)", x.sure(l, p, 0), value[l][p]);
+                Due.due("best halves", x.best(g, 0), best[l][p]);
+                Due.due("ended(" + l + ", " + p + ")", x.ended(l, p), Due.cut(0, 0, 0, 1, 1));
+            }
+        }
+        // The pair 01 lets b take 401, that is worth 0, and a take 012, that is worth 1; the other way round for B.
+        int[][] joined = {{Due.cut(0, 0, 1, 1, 0), Due.cut(0, 0, 0, 1, 1)}, {Due.cut(0, 0, 0, 1, 1), Due.cut(0, 0, 1, 1, 0)}};
+        int[][] worth = {{0, 1}, {-1, 0}};
+        for (int g = 0; g < 4; g++) {
+            Due.play(x, g, lowest);
+            Due.due("best joining", x.best(g, 0), joined[g / 2][g % 2]);
+            Due.due("value of joining", x.value(g, 0), worth[g / 2][g % 2]);
+        }
+        // Seats of A in 012: 1, in 401: 1 as {2,3} is A's. Seats of B in 012: 0, in 401: 1.
+        Due.due("by goal 1 both are alike", x.best(0, 1), Due.cut(0, 0, 0, 1, 1));
+        Due.due("by goal 1", x.value(0, 1), 1);
+        Due.due("by goal 2 b takes 401", x.best(0, 2), Due.cut(0, 0, 1, 1, 0));
+        Due.due("by goal 2", x.value(0, 2), 1);
+        Due.due("by goal 2 a takes 012", x.best(1, 2), Due.cut(0, 0, 0, 1, 1));
+        Due.due("by goal 2", x.value(1, 2), 0);
+    }
+
+    static void bestOfTwoCutsRising() {
+        Due.says(0, "BEST: each MOVE is one by which the GOAL, both playing so from there on, comes out best for who makes it;");
+        // Cuts 1, 5, 21, 85 of a line of five, worth 0, 1, 2, 0 to A in the first land, 0, -1, -2, 0 in the second.
+        String line = "5/2;0-1;1-2;2-3;3-4";
+        TwoPencils x = Due.lands(line + ";0:3,0;1:2,3;2:1,3;3:3,0;4:0,1", line + ";0:0,3;1:3,2;2:3,1;3:0,3;4:1,0", line);
+        int[][] rows = new int[2][4];
+        int[] cuts = {1, 5, 21, 85};
+        for (int l = 0; l < 2; l++) {
+            for (int c = 0; c < 4; c++) {
+                rows[l][c] = x.seats(l, cuts[c], 0) - x.seats(l, cuts[c], 1);
+            }
+        }
+        Due.protocols(x, "a/b", "b/a");
+        for (int l = 0; l < 3; l++) {
+            for (int p = 0; p < 2; p++) {
+                twoCutsAreBest(x, l, p, l < 2 ? rows[l] : new int[4], cuts);
+            }
+        }
+    }
+
+    /** Of all pairs of cuts, what the drawer likes best if the other one takes what he likes best. */
+    private static void twoCutsAreBest(TwoPencils x, int land, int drawer, int[] worth, int[] cuts) {
+        int sign = drawer == 0 ? 1 : -1;
+        int best = -100;
+        int first = 0;
+        int second = 0;
+        for (int i = 0; i < 4; i++) {
+            for (int j = i + 1; j < 4; j++) {
+                int comes = Math.min(sign * worth[i], sign * worth[j]);
+                if (comes > best) {
+                    best = comes;
+                    first = i;
+                    second = j;
+                }
+            }
+        }
+        int g = x.game(land, drawer);
+        Due.due("value of two cuts", x.value(g, 0), sign * best);
+        Due.due("first of two cuts", x.best(g, 0), cuts[first]);
+        Due.play(x, g, cuts[first]);
+        Due.due("value of the second", x.value(g, 0), sign * best);
+        Due.due("second of two cuts", x.best(g, 0), cuts[second]);
+        Due.play(x, g, cuts[second]);
+        Due.due("which is taken", x.best(g, 0), sign * worth[second] < sign * worth[first] ? 1 : 0);
+        Due.due("value of it", x.value(g, 0), sign * best);
+    }
+
+    static void valueOfButOneCut() {
+        Due.says(0, "(if there is but one, that is drawn alone, and taken);");
+        TwoPencils x = Due.lands("2/1;0-1;0:1,0", "2/1;0-1;0:0,1");
+        Due.protocols(x, "a/b", "b/a");
+        for (int l = 0; l < 2; l++) {
+            for (int p = 0; p < 2; p++) {
+                Due.due("sure(" + l + ", " + p + ", 0)", x.sure(l, p, 0), l == 0 ? 1 : -1);
+                Due.due("ended(" + l + ", " + p + ")", x.ended(l, p), 0);
+            }
+        }
+    }
+
+    static void valueOfTwoCutsWithASeatKept() {
+        Due.says(0, "VALUE: what comes of it, with SEATS kept so far.");
+        // {0} is kept for A; of 1, 2, 3 the cuts are {1,2},{3}: nobody, B, and {1},{2,3}: B, A.
+        TwoPencils x = Due.game(THREE, "a>b,b/a", 22, 0);
+        int[] moves = {Due.cut(0, 0, 0, 1), Due.cut(0, 0, 1, 1), 1};
+        int[] ofB = {1, 1, 1, 1};
+        int[] ofA = {2, 2, 2, 2};
+        for (int i = 0; i <= 3; i++) {
+            Due.due("value(0, 0) behind " + i, x.value(0, 0), 1);
+            Due.due("value(0, 1) behind " + i, x.value(0, 1), ofA[i]);
+            Due.due("value(0, 2) behind " + i, x.value(0, 2), ofB[i]);
+            if (i < 3) {
+                Due.play(x, 0, moves[i]);
+            }
+        }
+        x.undo(0);
+        Due.play(x, 0, 0);
+        Due.due("the other one is taken", x.value(0, 0), 0);
+        TwoPencils y = Due.game("4/2;0-1;1-2;2-3;0:1,0", "a>b,b+a", 1, 1, Due.halves(0, 1, 1, 0));
+        Due.due("{3} is kept", y.kept(0, 0), 8);
+        Due.due("value(0, 0), joined then", y.value(0, 0), 1);
+    }
+
     static void valueWithSeatsKept() {
         Due.says(0, "VALUE: what comes of it, with SEATS kept so far.");
         TwoPencils x = Due.game(THREE, "a>b", 6);
@@ -661,6 +824,18 @@ public final class BoundariesOfGames {
             }
         }
         Due.due("no game was made", x.count(2), 0);
+    }
+
+    static void endedByGoal0() {
+        Due.says(0, "by BEST MOVES by GOAL 0");
+        // 001: A and B, 011: A and nobody; in the second land 001: nobody and A, 011: B and A. Seats of A are alike.
+        TwoPencils x = Due.lands("3/2;0-1;1-2;0:5,0;1:1,0;2:0,1", "3/2;0-1;1-2;0:0,1;1:1,0;2:5,0");
+        Due.protocols(x, "a", "b");
+        Due.due("by seats of A", x.sure(0, 0, 1) + x.sure(1, 1, 1), 2);
+        Due.due("001: 0, 011: 1", x.ended(0, 0), 5);
+        Due.due("001: 0, 011: 1", x.ended(0, 1), 1);
+        Due.due("001: 1, 011: 0", x.ended(1, 0), 1);
+        Due.due("001: 1, 011: 0", x.ended(1, 1), 5);
     }
 
     static void endedNotIfBroken() {
@@ -1107,6 +1282,39 @@ public final class BoundariesOfGames {
         Due.play(x, 0, 26, 1, Due.cut(0, 0, 1, 1));
         Due.due("value(0, 0)", x.value(0, 0), 1);
         Due.due("sure(0, 1, 0)", x.sure(0, 1, 0), 0);
+    }
+
+    /** All that is told of protocols in one land is told anew when votes change there, and of all other lands it stays. */
+    static void votesChangeWhatComes() {
+        Due.says(9, "VOTES of a party (0 .. 2) in a PARISH from now on.");
+        String land = "3/2;0-1;1-2;0:9,0;1:0,5;2:1,0";
+        for (int changed = 0; changed < 6; changed++) {
+            TwoPencils x = Due.lands(land, land, land, land, land, land);
+            Due.protocols(x, "a", "b", "a", "b", "a", "b", "a", "b");
+            comesOf(x, -1);
+            int[][] votes = {{0, 9}, {5, 0}, {0, 1}};
+            for (int p = 0; p < 3; p++) {
+                x.vote(changed, p, 0, votes[p][0]);
+                x.vote(changed, p, 1, votes[p][1]);
+            }
+            comesOf(x, changed);
+        }
+    }
+
+    /** In changed A and B are in each other's place: 001 is worth -2 there, 2 elsewhere, 011 nothing. */
+    private static void comesOf(TwoPencils x, int changed) {
+        for (int l = 0; l < 6; l++) {
+            int sign = l == changed ? -1 : 1;
+            for (int p = 0; p < 8; p += l % 2 == 0 ? 7 : 3) {
+                boolean great = (p % 2 == 0) == (sign == 1);
+                String at = "(" + l + ", " + p + ") with " + changed + " changed";
+                Due.due("sure" + at, x.sure(l, p, 0), great ? 2 * sign : 0);
+                Due.due("sure of A" + at, x.sure(l, p, 1), sign == 1 ? great ? 2 : 1 : great ? 0 : 1);
+                Due.due("sure of B" + at, x.sure(l, p, 2), sign == 1 ? great ? 0 : 1 : great ? 2 : 1);
+                Due.due("first" + at, x.first(l, p), p % 2 == 0 ? 2 : -2);
+                Due.due("ended" + at, x.ended(l, p), great ? 1 : 5);
+            }
+        }
     }
 
     static void sureNoSuch() {

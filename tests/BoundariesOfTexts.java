@@ -337,6 +337,28 @@ public final class BoundariesOfTexts {
         Due.fault(0, (char) (50 + 128) + "/1", 0);
     }
 
+    static void faultIsTheFirstOfTwo() {
+        Due.says(0, "FAULT: the first byte at which no LAND can go on");
+        Due.fault(0, "1/9", 0);
+        Due.fault(0, "1000/9", 3);
+        Due.fault(0, "9/5;x", 2);
+        Due.fault(0, "2/1;2:100,x", 4);
+        Due.fault(0, "2/1;2-2;x", 4);
+        Due.fault(0, "2/1;0:100,100,100", 8);
+        Due.fault(0, "2/1;0:100,1;x", 8);
+        Due.fault(0, "2/1;0:1,100;x", 10);
+        Due.fault(0, "2/1;0:1,1,100;x", 12);
+        Due.fault(0, "2/1;0:1,1,100,", 12);
+        Due.fault(0, "2/1;0-0;x", 6);
+        Due.fault(0, "2/1;0=2;", 6);
+        Due.fault(0, "2/1;<1000;x", 8);
+        Due.fault(0, "2/1;>1000;x", 8);
+        Due.fault(0, "2/1;<1000", 8);
+        Due.fault(1, "a>a,x", 2);
+        Due.fault(1, "a-b,x", 1);
+        Due.fault(1, "c,d", 0);
+    }
+
     static void faultIsTheLength() {
         Due.says(0, "(the length, if it ends too early)");
         String[] early = {"", "2", "2/", "2/1;", "2/1;0", "2/1;0:", "2/1;0:1", "2/1;0:1,", "2/1;0:1,1,", "2/1;0-", "2/1;0=",
@@ -346,11 +368,8 @@ public final class BoundariesOfTexts {
             Due.fault(0, text + " ", text.length() + 1);
             Due.fault(0, " " + text + "  ", text.length() + 3);
         }
-        StringBuilder blanks = new StringBuilder();
-        for (int i = 0; i < 300; i++) {
-            blanks.append(' ');
-        }
-        Due.fault(0, blanks.toString(), 300);
+        String blanks = filled(300).replace('a', ' ');
+        Due.fault(0, blanks, 300);
         Due.noFault(0, blanks.substring(0, 297) + "2/1");
         Due.fault(0, blanks.substring(0, 298) + "2/", 300);
         Due.fault(0, blanks.substring(0, 299) + "2", 300);
@@ -453,10 +472,7 @@ public final class BoundariesOfTexts {
         Due.fault(1, "a\t", 1);
         Due.fault(1, "a" + (char) 160 + ">b", 1);
         Due.fault(1, "a>x,a>a", 2);
-        StringBuilder blanks = new StringBuilder();
-        for (int i = 0; i < 299; i++) {
-            blanks.append(' ');
-        }
+        String blanks = filled(299).replace('a', ' ');
         Due.noFault(1, blanks + "b");
         Due.fault(1, blanks + " ", 300);
         Due.fault(1, blanks + "c", 299);
@@ -612,6 +628,33 @@ public final class BoundariesOfTexts {
         Due.due("none beyond", x.feed(0, 0, 0, 0, 0), 300);
         Due.due("end(299)", x.end(299), true);
         Due.due("one again", x.feed(0, 0x6100, 0, 0, 0), 300);
+    }
+
+    static void feedBeyond300OfEachNumber() {
+        Due.says(2, "NONE: more than 300.");
+        for (int room = 0; room < 4; room++) {
+            TwoPencils x = new TwoPencils();
+            Due.feed(x, filled(300 - room));
+            for (int number = 0; number < 5; number++) {
+                int[] w = new int[5];
+                w[number] = new int[] {0x01000000, 0x01000100, 0x00010101, 0x01010101}[room];
+                Due.due("one too many in number " + number, x.feed(w[0], w[1], w[2], w[3], w[4]), -1);
+                Due.due("it stays", x.count(4), 300 - room);
+                w[number] = new int[] {0, 0x00010000, 0x01000001, 0x00010101}[room];
+                Due.due("just as many in number " + number, x.feed(w[0], w[1], w[2], w[3], w[4]), 300);
+                Due.due("end", x.end(300 - room), true);
+            }
+            Due.due("one in each of four", x.feed(1, 1 << 8, 0, 1 << 16, 1 << 24), -1);
+            Due.due("it stays", x.count(4), 300 - room);
+        }
+    }
+
+    private static String filled(int length) {
+        StringBuilder text = new StringBuilder();
+        for (int i = 0; i < length; i++) {
+            text.append('a');
+        }
+        return text.toString();
     }
 
     static void refusedFeedAddsNothing() {
@@ -857,6 +900,25 @@ public final class BoundariesOfTexts {
             Due.due("itself alone", Due.parish(x, 2, p, 4), Due.bits(p));
         }
         Due.due("not to be beside", Due.parish(x, 0, 0, 3), 0);
+    }
+
+    static void parishStayByOne() {
+        Due.says(8, "4 which must STAY with it (it itself, and by others, too), as bits.");
+        for (int by = 0; by < 9; by++) {
+            StringBuilder text = new StringBuilder("9/1");
+            int stay = 1 << by;
+            for (int p = by % 2; p < 9; p += 2) {
+                if (p != by) {
+                    text.append(";" + by + "=" + p);
+                    stay |= 1 << p;
+                }
+            }
+            TwoPencils x = Due.lands(text.toString());
+            for (int p = 0; p < 9; p++) {
+                int want = (stay >> p & 1) != 0 ? stay : 1 << p;
+                Due.due("stay with " + p + " by " + by, Due.parish(x, 0, p, 4), want);
+            }
+        }
     }
 
     static void parishNoSuch() {
