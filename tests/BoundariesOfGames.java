@@ -354,10 +354,27 @@ public final class BoundariesOfGames {
         Due.noMove(Due.game("6/3;0-1;1-2;2-3;3-4;4-5", "a+b", halves), 0, other);
         Due.noMove(Due.game("6/3;5-0;1-2;2-3;3-4;4-5", "a+b", halves), 0, one);
         Due.noMove(Due.game("6/3;3-0;1-2;2-3;3-4;4-5;0-2;3-5", "a+b"), 0, Due.halves(0, 1, 1, 2, 3, 4));
-        TwoPencils y = Due.lands("6/3;1-2;2-3;3-4;4-5");
+        TwoPencils y = Due.lands("6/3;1-2;2-3;3-4;4-5", "4/2;3-0;3-1;3-2");
         Due.protocols(y, "a+b");
-        Due.due("game(0, 0)", y.game(0, 0), 0);
-        Due.at(y, 0, BROKEN, -1, 0);
+        for (int l = 0; l < 2; l++) {
+            Due.due("game(" + l + ", 0)", y.game(l, 0), l);
+            Due.at(y, l, BROKEN, -1, 0);
+        }
+    }
+
+    static void eachHalfIsJoinedOnce() {
+        Due.says(0, "a CUT of all OPEN PARISHES of which each SEAT is two HALVES;");
+        StringBuilder text = new StringBuilder("6/3;5:9,0");
+        for (int p = 0; p < 6; p++) {
+            for (int q = 0; q < p; q++) {
+                text.append(";" + p + "-" + q + (p < 5 ? ";" + p + ":0,1;" + q + ":0,1" : ""));
+            }
+        }
+        // One seat has 5 in it and is A's, the two others are B's, however halves are joined.
+        TwoPencils x = Due.game(text.toString(), "b+a", Due.halves(0, 1, 2, 3, 4, 5));
+        Due.due("value(0, 0)", x.value(0, 0), -1);
+        Due.due("best(0, 0)", x.best(0, 0), Due.cut(0, 0, 1, 1, 2, 2));
+        Due.due("sure(0, 0, 1)", x.sure(0, 0, 1), 1);
     }
 
     static void twoUnlikeCuts() {
@@ -705,22 +722,38 @@ public final class BoundariesOfGames {
         Due.due("by goal 2", x.value(1, 2), 0);
     }
 
-    static void bestOfTwoCutsRising() {
-        Due.says(0, "BEST: each MOVE is one by which the GOAL, both playing so from there on, comes out best for who makes it;");
-        // Cuts 1, 5, 21, 85 of a line of five, worth 0, 1, 2, 0 to A in the first land, 0, -1, -2, 0 in the second.
-        String line = "5/2;0-1;1-2;2-3;3-4";
-        TwoPencils x = Due.lands(line + ";0:3,0;1:2,3;2:1,3;3:3,0;4:0,1", line + ";0:0,3;1:3,2;2:3,1;3:0,3;4:1,0", line);
-        int[][] rows = new int[2][4];
-        int[] cuts = {1, 5, 21, 85};
-        for (int l = 0; l < 2; l++) {
-            for (int c = 0; c < 4; c++) {
-                rows[l][c] = x.seats(l, cuts[c], 0) - x.seats(l, cuts[c], 1);
+    /** Two ways to join six parishes in a ring: 03|14|25 and 04|12|35; the second one has the lower number. */
+    static void bestJoiningOfSeveral() {
+        Due.says(0, "of several that with the lowest number");
+        String ring = "6/3;0-3;3-5;5-2;2-1;1-4;4-0";
+        int halves = Due.halves(0, 1, 2, 3, 4, 5);
+        int one = Due.cut(0, 1, 2, 0, 1, 2);
+        int other = Due.cut(0, 1, 1, 2, 0, 2);
+        // In the second land the one is worth 1, the other -1, in the third the other way round.
+        String[] lands = {ring, ring + ";0:0,1;1:0,1;3:2,0;5:1,0", ring + ";0:1,0;1:1,0;3:0,2;5:0,1"};
+        int[][] best = {{other, other}, {one, other}, {other, one}};
+        TwoPencils x = Due.lands(lands);
+        Due.protocols(x, "b+a", "a+b");
+        for (int l = 0; l < 3; l++) {
+            for (int p = 0; p < 2; p++) {
+                int g = x.game(l, p);
+                Due.play(x, g, halves);
+                Due.due("best joining in " + l + " by " + p, x.best(g, 0), best[l][p]);
             }
         }
+    }
+
+    static void bestOfTwoCutsRising() {
+        Due.says(0, "BEST: each MOVE is one by which the GOAL, both playing so from there on, comes out best for who makes it;");
+        // What cuts 1, 5, 21, 85 of a line of five are worth; in the second land A and B are in each other's place.
+        String line = "5/2;0-1;1-2;2-3;3-4";
+        TwoPencils x = Due.lands(line + ";1:3,2;2:2,1;3:1,0;4:2,3", line + ";1:2,3;2:1,2;3:0,1;4:3,2", line);
+        int[] cuts = {1, 5, 21, 85};
+        int[][] worth = {{0, 1, 2, 1}, {0, -1, -2, -1}, {0, 0, 0, 0}};
         Due.protocols(x, "a/b", "b/a");
         for (int l = 0; l < 3; l++) {
             for (int p = 0; p < 2; p++) {
-                twoCutsAreBest(x, l, p, l < 2 ? rows[l] : new int[4], cuts);
+                twoCutsAreBest(x, l, p, worth[l], cuts);
             }
         }
     }
