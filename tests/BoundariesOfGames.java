@@ -144,12 +144,18 @@ public final class BoundariesOfGames {
 
     static void drawnOfAllThatIsOpen() {
         Due.says(0, "a>b: a draws a LAWFUL CUT of all OPEN PARISHES into the SEATS to come;");
-        TwoPencils x = Due.game(RING + ";>1;0:1,0;1:1,0;2:1,0;3:1,0;4:1,0;5:1,0;5=0", "a>b");
+        // 5 and 0 must stay together.
+        TwoPencils x = Due.game(RING + ";5=0", "a>b");
         Due.noMove(x, 0, Due.cut(0, 0, 1, 1, 2, 2));
         Due.noMove(x, 0, Due.cut(0, 1, 0, 1, 2, 0));
         Due.noMove(x, 0, Due.cut(0, 1, 1, 1, 1, 0));
         Due.noMove(x, 0, Due.cut(0, 2, 2, 1, 1, 0));
-        Due.play(x, 0, Due.cut(0, 1, 1, 2, 2, 0), 1);
+        Due.play(x, 0, Due.cut(0, 1, 1, 2, 2, 0));
+    }
+
+    static void drawnOfWhatIsLeftOpen() {
+        Due.says(0, "a draws a LAWFUL CUT of all OPEN PARISHES into the SEATS to come;");
+        TwoPencils x = Due.game(RING + ";5=0", "a>b", Due.cut(0, 1, 1, 2, 2, 0), 1);
         Due.at(x, 0, 0, 0, 1);
         // {3,4} and {0,5} are left, in a row 3, 4, 5, 0.
         Due.noMove(x, 0, Due.cut(0, 0, 0, 0, 0, 0));

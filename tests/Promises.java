@@ -54,27 +54,15 @@ public final class Promises {
         due(promise, call, got ? 1 : 0, want ? 1 : 0);
     }
 
-    private static int feed(TwoPencils x, String text) {
-        int length = 0;
-        for (int i = 0; i < text.length(); i += 20) {
-            int[] w = new int[5];
-            for (int k = 0; k < 20 && i + k < text.length(); k++) {
-                w[k / 4] |= text.charAt(i + k) << 24 - 8 * (k % 4);
-            }
-            length = x.feed(w[0], w[1], w[2], w[3], w[4]);
-        }
-        return length;
-    }
-
     private static TwoPencils with(String lands, String protocols) {
         TwoPencils x = new TwoPencils();
         for (String land : lands.split("\\|")) {
-            feed(x, land);
+            Due.feed(x, land);
             due(5, land, x.land() >= 0, true);
         }
         for (String protocol : protocols.split("\\|")) {
             if (!protocol.isEmpty()) {
-                feed(x, protocol);
+                Due.feed(x, protocol);
                 due(6, protocol, x.protocol() >= 0, true);
             }
         }
@@ -117,14 +105,14 @@ public final class Promises {
         due(3, "count", x.count(4), 7);
         due(3, "end(0)", x.end(0), true);
         due(3, "count", x.count(4), 0);
-        feed(x, "a>bc");
+        Due.feed(x, "a>bc");
         due(3, "end(3)", x.end(3), true);
         due(3, "a>b", x.fault(1), -1);
     }
 
     private static void fault(int sort, String text, int want) {
         TwoPencils x = new TwoPencils();
-        feed(x, text);
+        Due.feed(x, text);
         due(4, "fault(" + sort + ") of '" + text + "'", x.fault(sort), want);
         due(4, "the tape stays", x.count(4), text.length());
         if (sort == 0) {
@@ -226,21 +214,21 @@ public final class Promises {
     private static void p5and6() {
         TwoPencils x = new TwoPencils();
         for (int i = 0; i < 6; i++) {
-            feed(x, "2/1");
+            Due.feed(x, "2/1");
             due(5, "land()", x.land(), i);
             due(5, "empty then", x.count(4), 0);
         }
-        feed(x, "2/1");
+        Due.feed(x, "2/1");
         due(5, "a seventh", x.land(), -1);
         due(5, "it stays", x.count(4), 3);
         due(5, "no fault", x.fault(0), -1);
         due(5, "count", x.count(0), 6);
         x.end(0);
         for (int i = 0; i < 8; i++) {
-            feed(x, "a");
+            Due.feed(x, "a");
             due(6, "protocol()", x.protocol(), i);
         }
-        feed(x, "a");
+        Due.feed(x, "a");
         due(6, "a ninth", x.protocol(), -1);
         due(6, "it stays", x.count(4), 1);
         due(6, "count", x.count(1), 8);
@@ -444,15 +432,7 @@ public final class Promises {
         due(17, "no such number", x.apart(0, 1, -1), -1);
         due(17, "no such land", x.apart(2, 1, 1), -1);
         // {0,1,2},{3,4},{5} and {0},{1,2,3},{4,5}: 1, 2 and 4 stay where they are, or 0, 3 and 5
-        due(17, "three seats", x.apart(1, cut(0, 0, 0, 1, 1, 2), cut(0, 1, 1, 1, 2, 2)), 3);
-    }
-
-    private static int cut(int... digits) {
-        int number = 0;
-        for (int d : digits) {
-            number = number * 4 + d;
-        }
-        return number;
+        due(17, "three seats", x.apart(1, Due.cut(0, 0, 0, 1, 1, 2), Due.cut(0, 1, 1, 1, 2, 2)), 3);
     }
 
     private static void p18and19() {
@@ -481,7 +461,7 @@ public final class Promises {
         due(20, "steps", x.walk(0, 5, 77L, -1), -1);
         due(20, "not lawful", x.walk(0, 17, 77L, 3), -1);
         due(20, "no such land", x.walk(2, 5, 77L, 3), -1);
-        int from = cut(0, 0, 1, 1, 2, 2);
+        int from = Due.cut(0, 0, 1, 1, 2, 2);
         for (int steps = 1; steps <= 500; steps += 83) {
             due(20, "steps " + steps, x.walk(1, from, -5L, steps), walked(from, -5L, steps));
         }
@@ -517,7 +497,7 @@ public final class Promises {
                 seat = next;
             }
         }
-        return cut(seat);
+        return Due.cut(seat);
     }
 
     private static void at(TwoPencils x, int game, int phase, int turn) {
@@ -530,17 +510,17 @@ public final class Promises {
         due(21, "game", x.game(0, 0), 0);
         due(25, "none was made", x.undo(0), false);
         at(x, 0, 0, 0);
-        due(24, "not lawful", x.move(0, cut(0, 1, 0, 1, 2, 2)), false);
-        due(24, "draw", x.move(0, cut(0, 0, 1, 1, 2, 2)), true);
+        due(24, "not lawful", x.move(0, Due.cut(0, 1, 0, 1, 2, 2)), false);
+        due(24, "draw", x.move(0, Due.cut(0, 0, 1, 1, 2, 2)), true);
         at(x, 0, 1, 1);
         due(24, "no such seat", x.move(0, 3), false);
         due(24, "no such seat", x.move(0, -1), false);
         due(24, "keep 2 and 3", x.move(0, 1), true);
         at(x, 0, 0, 1);
-        due(24, "a closed parish has a digit", x.move(0, cut(0, 0, 1, 0, 1, 1)), false);
-        due(24, "three seats", x.move(0, cut(0, 1, 0, 0, 2, 2)), false);
-        due(24, "draw the rest: 0 | 1 is torn from 4, 5", x.move(0, cut(0, 1, 0, 0, 1, 1)), false);
-        due(24, "draw the rest", x.move(0, cut(0, 1, 0, 0, 0, 0)), true);
+        due(24, "a closed parish has a digit", x.move(0, Due.cut(0, 0, 1, 0, 1, 1)), false);
+        due(24, "three seats", x.move(0, Due.cut(0, 1, 0, 0, 2, 2)), false);
+        due(24, "draw the rest: 0 | 1 is torn from 4, 5", x.move(0, Due.cut(0, 1, 0, 0, 1, 1)), false);
+        due(24, "draw the rest", x.move(0, Due.cut(0, 1, 0, 0, 0, 0)), true);
         at(x, 0, 1, 0);
         due(24, "keep 1", x.move(0, 1), true);
         at(x, 0, 0, 0);
@@ -619,7 +599,7 @@ public final class Promises {
         due(25, "undo", x.undo(3), true);
         at(x, 3, 5, 1);
         x.game(2, 3);
-        due(24, "draw", x.move(4, cut(0, 0, 0, 0, 1)), true);
+        due(24, "draw", x.move(4, Due.cut(0, 0, 0, 0, 1)), true);
         due(24, "keep the long one", x.move(4, 0), true);
         at(x, 4, 9, -1);
         due(28, "broken with what was kept", x.kept(4, -1), 1);
@@ -727,11 +707,11 @@ public final class Promises {
         // Far for A: ROW by a 9/23, by b 5/46; TORN has none.
         TwoPencils x = with(TORN + "|" + ROW, "a|b");
         due(32, "the only one", x.worst(0), 1);
-        feed(x, "2/2;0:1,0");
+        Due.feed(x, "2/2;0:1,0");
         x.land();
         // one of two seats, all votes: 1/2
         due(32, "farther", x.worst(0), 2);
-        feed(x, "2/2;0:1,0");
+        Due.feed(x, "2/2;0:1,0");
         x.land();
         due(32, "of several the lowest", x.worst(0), 2);
         due(32, "by b", x.worst(1), 2);
@@ -750,7 +730,7 @@ public final class Promises {
 
     private static void p34() {
         TwoPencils x = with(ROW + "|" + TORN, "a|b|a");
-        feed(x, "a,b");
+        Due.feed(x, "a,b");
         x.game(0, 0);
         x.game(1, 0);
         int[] counts = {2, 3, 2, 1, 3};
@@ -772,8 +752,8 @@ public final class Promises {
         for (int h = 0; h < 6; h++) {
             halves = halves * 8 + h;
         }
-        int one = cut(0, 1, 2, 0, 1, 2);
-        int other = cut(0, 1, 1, 2, 0, 2);
+        int one = Due.cut(0, 1, 2, 0, 1, 2);
+        int other = Due.cut(0, 1, 1, 2, 0, 2);
         TwoPencils x = with(ring + "|" + ring + ";0:1,0;1:1,0;3:0,2;5:0,1", "a+b|b+a");
         for (int l = 0; l < 2; l++) {
             for (int p = 0; p < 2; p++) {
@@ -783,7 +763,7 @@ public final class Promises {
                 due(26, "join " + l + " " + p, x.best(g, 0), l == 1 && p == 0 ? one : other);
                 due(27, "join " + l + " " + p, x.value(g, 0), l == 0 ? 0 : p == 0 ? -1 : 1);
                 due(30, "ended " + l + " " + p, x.ended(l, p), l == 1 && p == 0 ? one : other);
-                due(24, "no join", x.move(g, cut(0, 0, 1, 1, 2, 2)), false);
+                due(24, "no join", x.move(g, Due.cut(0, 0, 1, 1, 2, 2)), false);
                 due(24, "join", x.move(g, one), true);
             }
         }
