@@ -14,6 +14,7 @@ public final class TwoPencils {
     private static final int SEATS = 4;
     private static final int HALVES = 8;
     private static final int PARTIES = 3;
+    private static final int NOBODY = 3;
     private static final int GOALS = 3;
     private static final int LONGEST_TAPE = 300;
     private static final int LONGEST_WALK = 500;
@@ -56,10 +57,13 @@ public final class TwoPencils {
     private int landCount = 0;
     private int protocolCount = 0;
     private int gameCount = 0;
+    // Stand where no land or protocol has come yet, so that no field is null.
+    private final Land nowhere = new Land(landText);
+    private final Protocol nothing = new Protocol(protocolText);
     private final Cutter scout = new Cutter();
-    private final Joiner joiner = new Joiner();
-    private final Mind mind = new Mind(joiner);
-    private final Game trial = new Game(scout, joiner);
+    private final Joiner joiner = new Joiner(nowhere);
+    private final Mind mind = new Mind(joiner, nowhere, nothing);
+    private final Game trial = new Game(scout, joiner, nowhere, nothing);
     private final int[] answers = new int[LANDS * PROTOCOLS * KEPT_ANSWERS];
     private final int[] parts = new int[HALVES];
     private final int[] otherParts = new int[HALVES];
@@ -170,7 +174,7 @@ public final class TwoPencils {
         if (here == null || seat < 0 || seat >= here.seats) {
             return NONE;
         }
-        return here.winner[parts[seat]];
+        return here.winnerIn(parts[seat]);
     }
 
     public int seats(int land, int cut, int party) {
@@ -276,7 +280,7 @@ public final class TwoPencils {
         if (here == null || by == null || gameCount >= GAMES) {
             return NONE;
         }
-        Game made = new Game(scout, joiner);
+        Game made = new Game(scout, joiner, here, by);
         made.start(here, by);
         here.played = true;
         games[gameCount] = made;
@@ -350,9 +354,6 @@ public final class TwoPencils {
     }
 
     public int ended(int land, int protocol) {
-        if (readyLand(land) == null || protocolAt(protocol) == null) {
-            return NONE;
-        }
         return endOf(land, protocol);
     }
 
@@ -372,10 +373,11 @@ public final class TwoPencils {
         int lower = 1;
         for (int l = 0; l < landCount; l++) {
             int itsUpper = farOfEnd(l, endOf(l, protocol));
-            if (itsUpper == NONE) {
+            Land here = landAt(l);
+            if (here == null || itsUpper == NONE) {
                 continue;
             }
-            int itsLower = lands[l].farLower();
+            int itsLower = here.farLower();
             if (farthest == NONE || itsUpper * lower > upper * itsLower) {
                 farthest = l;
                 upper = itsUpper;
@@ -465,32 +467,42 @@ public final class TwoPencils {
     private int gamesOver() {
         int over = 0;
         for (int g = 0; g < gameCount; g++) {
-            if (games[g].isOver()) {
+            Game here = gameAt(g);
+            if (here != null && here.isOver()) {
                 over++;
             }
         }
         return over;
     }
 
-    /** What comes of a protocol; kept till a vote changes, as this is dear. Both are there. */
+    /** What comes of a protocol; kept till a vote changes, as this is dear. NONE: no such ones. */
     private int answer(int land, int protocol, int what) {
+        Land here = readyLand(land);
+        Protocol by = protocolAt(protocol);
+        if (here == null || by == null) {
+            return NONE;
+        }
         int place = (land * PROTOCOLS + protocol) * KEPT_ANSWERS + what;
         if (answers[place] == UNKNOWN) {
             boolean changed = what == CHANGED;
-            mind.turnTo(lands[land], protocols[protocol], changed ? 1 : 0, changed ? 0 : what);
-            trial.start(lands[land], protocols[protocol]);
+            mind.turnTo(here, by, changed ? 1 : 0, changed ? 0 : what);
+            trial.start(here, by);
             answers[place] = mind.weigh(trial);
         }
         return answers[place];
     }
 
-    /** The cut that a protocol has ended with, or NONE; kept likewise. Both are there. */
+    /** The cut that a protocol has ended with, or NONE; kept likewise. */
     private int endOf(int land, int protocol) {
-        int place = (land * PROTOCOLS + protocol) * KEPT_ANSWERS + CUT_AT_END;
         Land here = readyLand(land);
-        if (here != null && answers[place] == UNKNOWN) {
-            mind.turnTo(here, protocols[protocol], 0, 0);
-            trial.start(here, protocols[protocol]);
+        Protocol by = protocolAt(protocol);
+        if (here == null || by == null) {
+            return NONE;
+        }
+        int place = (land * PROTOCOLS + protocol) * KEPT_ANSWERS + CUT_AT_END;
+        if (answers[place] == UNKNOWN) {
+            mind.turnTo(here, by, 0, 0);
+            trial.start(here, by);
             for (int i = 0; i < Game.MOST_MOVES && !trial.isOver(); i++) {
                 mind.weigh(trial);
                 trial.play(mind.choice);
@@ -844,7 +856,7 @@ public final class TwoPencils {
         }
 
         private int votesIn(int set, int party) {
-            return totals[set] >> 10 * party & 1023;
+            return set >= 0 && set < totals.length ? totals[set] >> 10 * party & 1023 : 0;
         }
 
         private int headsIn(int set) {
@@ -861,7 +873,7 @@ public final class TwoPencils {
             if (b > a && b > c) {
                 return 1;
             }
-            return c > a && c > b ? 2 : 3;
+            return c > a && c > b ? 2 : NOBODY;
         }
 
         private int flawOf(int set) {
@@ -881,11 +893,15 @@ public final class TwoPencils {
         }
 
         boolean isHanging(int set) {
-            return (hanging[set] >> parishes & 1) != 0;
+            return set >= 0 && set < hanging.length && (hanging[set] >> parishes & 1) != 0;
         }
 
         boolean isLawful(int set) {
-            return (lawful[set] >> parishes & 1) != 0;
+            return set >= 0 && set < lawful.length && (lawful[set] >> parishes & 1) != 0;
+        }
+
+        int winnerIn(int set) {
+            return set >= 0 && set < winner.length ? winner[set] : NOBODY;
         }
 
         int votesInAll(int party) {
@@ -986,7 +1002,7 @@ public final class TwoPencils {
         int wins(int[] parts, int party) {
             int won = 0;
             for (int s = 0; s < seats; s++) {
-                if (winner[parts[s]] == party) {
+                if (winnerIn(parts[s]) == party) {
                     won++;
                 }
             }
@@ -995,6 +1011,9 @@ public final class TwoPencils {
 
         /** What a seat adds to a goal, as a sees it: a wants all goals great, b wants them small. */
         int worth(int set, int goal) {
+            if (set < 0 || set >= winner.length || goal < 0 || goal >= GOALS) {
+                return 0;
+            }
             return WORTHS[4 * goal + winner[set]];
         }
 
@@ -1202,7 +1221,7 @@ public final class TwoPencils {
             this.parishes = parishes;
             this.count = Math.min(count, HALVES);
             places = 0;
-            for (int p = 0; p < parishes; p++) {
+            for (int p = 0; p < parishes && places < PARISHES; p++) {
                 if ((open >> p & 1) != 0) {
                     parish[places] = p;
                     places++;
@@ -1218,7 +1237,7 @@ public final class TwoPencils {
             if (at == places) {
                 at--;
             }
-            for (int i = 0; i < A_MILLION && at >= 0; i++) {
+            for (int i = 0; i < A_MILLION && at >= 0 && at < places; i++) {
                 if (!shift()) {
                     at--;
                 } else if (isHopeful()) {
@@ -1257,7 +1276,7 @@ public final class TwoPencils {
             }
             int from = parish[at + 1];
             for (int i = 0; i < begun; i++) {
-                if ((hope[part[i]] >> from & 1) == 0) {
+                if (part[i] >= hope.length || (hope[part[i]] >> from & 1) == 0) {
                     return false;
                 }
             }
@@ -1275,7 +1294,7 @@ public final class TwoPencils {
 
     /** Joins halves two by two to lawful seats, in the way that a player likes best. */
     private static final class Joiner {
-        private Land land = null;
+        private Land land;
         private int[] half = new int[0];
         private int seats = 0;
         private int player = 0;
@@ -1283,6 +1302,10 @@ public final class TwoPencils {
         private final int[] joined = new int[SEATS];
         private int number = NONE;
         private int worth = 0;
+
+        Joiner(Land nowhere) {
+            land = nowhere;
+        }
 
         /** False: they can not be joined. */
         boolean join(Land land, int[] half, int seats, int player, int goal) {
@@ -1328,8 +1351,8 @@ public final class TwoPencils {
 
         private final Cutter scout;
         private final Joiner joiner;
-        private Land land = null;
-        private Protocol protocol = null;
+        private Land land;
+        private Protocol protocol;
         private final int[] moves = new int[MOST_MOVES];
         private int made = 0;
         private final int[] kept = new int[SEATS];
@@ -1344,9 +1367,11 @@ public final class TwoPencils {
         private int firstCut = NONE;
         private int secondCut = NONE;
 
-        Game(Cutter scout, Joiner joiner) {
+        Game(Cutter scout, Joiner joiner, Land land, Protocol protocol) {
             this.scout = scout;
             this.joiner = joiner;
+            this.land = land;
+            this.protocol = protocol;
         }
 
         void start(Land land, Protocol protocol) {
@@ -1538,14 +1563,16 @@ public final class TwoPencils {
         private final int[] worths = new int[SEATS * SETS];
         private final int[] choices = new int[SEATS * SETS];
         private final int[] spare = new int[HALVES];
-        private Land land = null;
-        private Protocol protocol = null;
+        private Land land;
+        private Protocol protocol;
         private int changed = 0;
-        private int goal = 0;
+        private int goal = NONE;
         private int choice = NONE;
 
-        Mind(Joiner joiner) {
+        Mind(Joiner joiner, Land nowhere, Protocol nothing) {
             this.joiner = joiner;
+            land = nowhere;
+            protocol = nothing;
             for (int i = 0; i < SEATS; i++) {
                 cutters[i] = new Cutter();
             }
@@ -1571,8 +1598,9 @@ public final class TwoPencils {
             }
         }
 
+        /** No goal is NONE, so the next one is new. */
         void forget() {
-            land = null;
+            goal = NONE;
         }
 
         private int drawer(int toCome) {
@@ -1585,13 +1613,14 @@ public final class TwoPencils {
             int sum = land.worthOfAll(game.kept, game.keptCount, goal);
             int toCome = game.toCome;
             choice = NONE;
+            if (game.isOver() || toCome < 1 || toCome > land.seats) {
+                return sum;
+            }
             switch (game.phase) {
                 case KEEP: return sum + keepOne(game.drawn, game.open, toCome, worstFor(drawer(toCome)));
                 case JOIN: return sum + joinHalves(game.drawn, toCome);
                 case TWO_OF_TWO: return sum + drawSecond(game);
                 case TAKE: return sum + takeOne(game);
-                case OVER:
-                case BROKEN: return sum;
                 default: return sum + ahead(game.open, toCome);
             }
         }
