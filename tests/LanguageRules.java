@@ -32,6 +32,7 @@ public final class LanguageRules {
         face();
         classes();
         source();
+        nothingIsNull(new TwoPencils());
         room();
         System.out.println(wrong == 0 ? "all rules are kept" : wrong + " rules are broken");
         if (wrong != 0) {
@@ -133,6 +134,21 @@ public final class LanguageRules {
                 rule("a method of at most sixty lines at " + (start + 1), i - start < 60 || lines[i].startsWith("    }"));
             }
             rule("a loop with an end in line " + (i + 1), !lines[i].matches(".*\\bwhile\\b.*|.*for \\(;;\\).*"));
+        }
+    }
+
+    /** Places for lands, protocols and games are null till these come; nothing else is, from the first on. */
+    private static void nothingIsNull(Object own) throws Exception {
+        for (Field f : own.getClass().getDeclaredFields()) {
+            f.setAccessible(true);
+            if (Modifier.isStatic(f.getModifiers()) || f.getType().isPrimitive()) {
+                continue;
+            }
+            Object value = f.get(own);
+            rule(f + " is not null in a new object", value != null);
+            if (value != null && all().contains(value.getClass())) {
+                nothingIsNull(value);
+            }
         }
     }
 

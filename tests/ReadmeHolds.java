@@ -7,6 +7,7 @@ import java.util.ArrayList;
 import java.util.List;
 import java.util.regex.Matcher;
 import java.util.regex.Pattern;
+import java.util.stream.Stream;
 import javax.tools.JavaCompiler;
 import javax.tools.JavaFileObject;
 import javax.tools.SimpleJavaFileObject;
@@ -38,8 +39,9 @@ public final class ReadmeHolds {
         }
         everyCall(body.toString());
         files(readme);
+        Path copy = copyOfProject();
         for (String command : commands) {
-            run(command);
+            run(command, copy);
         }
         program(members.toString(), body.toString());
         System.out.println(wrong == 0 ? "README.md holds" : wrong + " things do not hold");
@@ -90,16 +92,33 @@ public final class ReadmeHolds {
         }
     }
 
+    /** Beside where this test was compiled to, so that what the commands make does not come into the project. */
+    private static Path copyOfProject() throws Exception {
+        Path to = Files.createTempDirectory(compiledTo(), "project");
+        for (String part : List.of("src", "tests")) {
+            try (Stream<Path> all = Files.walk(Path.of(part))) {
+                for (Path one : all.toList()) {
+                    Files.copy(one, to.resolve(one));
+                }
+            }
+        }
+        return to;
+    }
+
+    private static Path compiledTo() {
+        return Path.of(System.getProperty("java.class.path").split(File.pathSeparator)[0]);
+    }
+
     /** The script that runs this test is not run by it. */
-    private static void run(String command) throws Exception {
+    private static void run(String command, Path there) throws Exception {
         if (command.equals(".ci/run")) {
             if (!Files.isExecutable(Path.of(command))) {
                 fail(command + " can not be run");
             }
             return;
         }
-        Process process = new ProcessBuilder("sh", "-c", command).redirectErrorStream(true)
-                .redirectOutput(ProcessBuilder.Redirect.DISCARD).start();
+        Process process = new ProcessBuilder("sh", "-c", command).directory(there.toFile())
+                .redirectErrorStream(true).redirectOutput(ProcessBuilder.Redirect.DISCARD).start();
         if (process.waitFor() != 0) {
             fail("this command fails: " + command);
         }
@@ -108,7 +127,7 @@ public final class ReadmeHolds {
     /** Compiles it to where this test was compiled to, and runs it. */
     private static void program(String members, String body) throws Exception {
         String text = "public class Readme { " + members + "public static void main(String[] args) {\n" + body + "}}";
-        String path = System.getProperty("java.class.path").split(File.pathSeparator)[0];
+        String path = compiledTo().toString();
         SimpleJavaFileObject source = new SimpleJavaFileObject(URI.create("string:///Readme.java"),
                 JavaFileObject.Kind.SOURCE) {
             @Override
